@@ -10,6 +10,7 @@ public final class FromOneToAnotherTest {
         inTheWayOfCopy();
         copyOutOfBounds();
         copyOfParts();
+        fullColumns();
         copied();
         move();
         moveWithinOne();
@@ -156,6 +157,32 @@ public final class FromOneToAnotherTest {
         Due.is("plain to soft", x.copy(0, 0, 2, 0, 1), STORE);
         Due.is("plain to any", x.copy(0, 0, 3, 0, 1), 1);
         Due.is("OUT goes before STORE", x.copy(0, 0, 1, 0, 6), OUT);
+    }
+
+    private static void fullColumns() {
+        for (int kind = 0; kind < 10; kind++) {
+            MappingMoves x = new MappingMoves();
+            x.part(kind == 9 ? 2 : 1, 1);
+            x.make(0, kind, 40);
+            x.make(1, kind, 40);
+            for (int i = 0; i < 40; i++) {
+                Due.is("set", kind < 7 ? x.put(0, i, i) : x.lay(0, i, 0), 1);
+            }
+            Due.is("copy of all", x.copy(0, 0, 1, 0, 40), 40);
+            Due.is("like in all", x.like(0, 1), 1);
+            Due.is("moved", x.move(0, 3, rule(0, 1, 0, 1, 0, 1)), 6);
+            Due.is("like in all", x.like(0, 23), 1);
+            Due.is("cells in all", x.told(1), 8 * 40);
+            Due.is("cells that hold", x.told(3), kind < 7 ? 0 : 8 * 40);
+            if (kind > 6) {
+                x.make(2, kind == 7 ? 8 : 7, 40);
+                Due.is("copy of all to another shelf", x.copy(0, 0, 2, 0, 40), 40);
+                x.make(2, kind == 9 ? 8 : 9, 40);
+                x.lay(0, 39, -1);
+                Due.is("the last can be copied", x.copy(0, 39, 2, 39, 1), 1);
+                Due.is("none of the rest", x.copy(0, 38, 2, 38, 2), STORE);
+            }
+        }
     }
 
     private static void copied() {

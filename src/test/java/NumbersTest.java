@@ -179,7 +179,13 @@ public final class NumbersTest {
         Due.is("the last can't", x.turn(0, 0), -59);
         x.put(0, 5, 128);
         Due.is("the first that can't", x.turn(0, 0), -25);
+        x.put(0, 0, -129);
+        Due.is("cell 0 can't", x.turn(0, 0), -20);
+        x.put(0, 0, 0);
         Due.is("chars can", x.turn(0, 2), 1);
+        Due.is("just as it was", Due.get(x, 0, 39), 200);
+        Due.is("40 cells to reals", x.turn(0, 6), 1);
+        Due.is("40 cells to wholes", x.turn(0, 1), 1);
         Due.is("just as it was", Due.get(x, 0, 39), 200);
         x.make(0, 7, 0);
         x.make(0, 4, 0);
