@@ -182,8 +182,8 @@ public final class EdgesOfMovesTest {
 
     private static void copyOfFullShelvesOfUnlikeKinds() {
         for (int kind = 8; kind < 10; kind++) {
-            full("copy: between SHELVES of unlike KINDS: all of 40", 0, kind).rows("make 1 7 40 = 40", "copy 0 0 1 0 40 = 40", "copied = 40",
-                    "get 1 0 = 0", "get 1 39 = 39", "make 2 " + kind + " 40 = 40", "copy 1 0 2 0 40 = 40", "like 0 2 = 1",
+            full("copy: between SHELVES of unlike KINDS: all of 40", 0, kind).rows("make 1 7 40 = 40", "copy 0 0 1 0 40 = 40",
+                    "copied = 40", "get 1 0 = 0", "get 1 39 = 39", "make 2 " + kind + " 40 = 40", "copy 1 0 2 0 40 = 40", "like 0 2 = 1",
                     "copy 1 39 2 0 1 = 1", "get 2 0 = 39", "copy 1 40 2 40 0 = 0", "make 3 " + (17 - kind) + " 40 = 40",
                     "copy 1 39 3 39 1 = STORE", "copied = 0", "copy 3 0 2 0 40 = 40", "told 3 = 80", "copy 3 0 1 1 39 = 39", "told 3 = 41");
         }
