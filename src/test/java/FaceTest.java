@@ -25,7 +25,10 @@ public final class FaceTest {
         constants();
         methods();
         nothingElseCanBeSeen();
-        text();
+        String text = Files.readString(Path.of("src/main/java/MappingMoves.java"));
+        words(text);
+        sections(text);
+        throwsStandInGetAlone(text);
         Due.end();
     }
 
@@ -93,8 +96,7 @@ public final class FaceTest {
         Due.holds(member + " is public or private", Modifier.isPublic(of) || Modifier.isPrivate(of));
     }
 
-    private static void text() throws IOException {
-        String text = Files.readString(Path.of("src/main/java/MappingMoves.java"));
+    private static void words(String text) {
         for (String word : new String[] {"catch", "try", "finally", "import", "package", "synchronized", "assert", "Exact"}) {
             Due.holds("the text has no word " + word, !text.matches("(?s).*\\b\\w*" + word + "\\b.*"));
         }
@@ -102,5 +104,27 @@ public final class FaceTest {
             Due.holds("the text has no " + sign, !text.contains(sign));
         }
         Due.holds("the text is of characters 0 to 127", text.chars().allMatch(c -> c < 128));
+    }
+
+    /** 'Ahead of the calls .. the interface says: ---- ..': the heads and the calls in the document's order. */
+    private static void sections(String text) {
+        String[] order = {"// ---- columns", "make", "let", "drop", "kind", "length", "// ---- numbers", "put", "get", "sum", "turn",
+            "// ---- parts", "part", "lay", "weigh", "rigid", "fault", "raise",
+            "// ---- from one to another", "copy", "copied", "move", "like", "told"};
+        int behind = 0;
+        for (String next : order) {
+            String type = next.equals("get") ? "long " : "int ";
+            int at = text.indexOf(next.startsWith("//") ? next + "\n" : "public " + type + next + "(", behind);
+            Due.holds(next + " stands where the document has it", at >= 0);
+            behind = Math.max(at, behind);
+        }
+    }
+
+    private static void throwsStandInGetAlone(String text) {
+        int first = text.indexOf("public long get(");
+        int end = text.indexOf("public int sum(");
+        String get = text.substring(first, end);
+        Due.is("throws in get()", get.split("throw new ", -1).length - 1, 4);
+        Due.is("throws in all", text.split("\\bthrow\\b", -1).length - 1, 4);
     }
 }
